@@ -710,20 +710,12 @@ public final class SeesawPark {
                 if (token == END) {
                     return items;
                 }
-                if (!readItem()) {
+                boolean right = token == PLANK ? readPlank() : token == CHILD ? readChild() : token == STONE && readStone();
+                if (!right) {
                     return -1;
                 }
             }
             return -1;
-        }
-
-        private boolean readItem() {
-            switch (token) {
-                case PLANK: return readPlank();
-                case CHILD: return readChild();
-                case STONE: return readStone();
-                default: return false;
-            }
         }
 
         private boolean readPlank() {
