@@ -746,6 +746,13 @@ public final class EdgesTest {
     // (0, 1) leaves 1350 at worst, (1, 2) 1140, (1, 3) 825, (2, 4) 720.
     Due.is("21 the fewest at worst, of five: the pair", w.next(0), 24);
     Due.is("21 the fewest at worst, of five: that many", w.next(1), 720);
+    SeesawPark v = new SeesawPark();
+    v.strangers(4);
+    v.trial(0, 1, -1);
+    v.trial(0, 3, -1);
+    // (0, 1) leaves 330 at worst, (0, 2) 225, (1, 2) 190, (1, 3) 120.
+    Due.is("21 the fewest at worst, each fewer than the last: the pair", v.next(0), 13);
+    Due.is("21 the fewest at worst, each fewer than the last: that many", v.next(1), 120);
     // At worst: 15 of 15 if (0, 1) is tried again, whichever of the three outcomes it was.
     for (int r = -1; r <= 1; r++) {
       SeesawPark y = new SeesawPark();
